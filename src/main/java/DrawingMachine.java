@@ -425,7 +425,7 @@ public final class DrawingMachine {
                 picture.clear(given[0], given[1], given[2], given[3]);
                 return 0;
             case UNIFORMS:
-                System.arraycopy(memory, given[1] == 0 ? 0 : given[2], told.kept, UNIFORM_AT + 4 * given[0], 4 * given[1]);
+                told.keepUniforms(given[0], given[1], memory, given[2]);
                 return 0;
             case CORNERS_PROGRAM:
             case PLACES_PROGRAM:
@@ -527,6 +527,13 @@ public final class DrawingMachine {
             int skipped = KEPT_BY_FIRST[kind];
             int many = ARGUMENTS[kind] - skipped;
             System.arraycopy(given, skipped, kept, to + skipped * given[0] * many, many);
+        }
+
+        void keepUniforms(int n, int many, int[] memory, int from) {
+            // None may be asked for from a word that there isn't.
+            if (many > 0) {
+                System.arraycopy(memory, from, kept, UNIFORM_AT + 4 * n, 4 * many);
+            }
         }
 
         boolean isOpen(int x, int y) {
@@ -1426,10 +1433,10 @@ public final class DrawingMachine {
                 share[j] = weight[j] * shape.nearness[who[j]];
                 most = Math.max(most, share[j]);
             }
-            int down = Math.max(64 - Long.numberOfLeadingZeros(most) - 29, 0);
+            int shift = Math.max(64 - Long.numberOfLeadingZeros(most) - 29, 0);
             shares = 0;
             for (int j = 0; j < 3; j++) {
-                share[j] >>= down;
+                share[j] >>= shift;
                 shares += share[j];
             }
         }
@@ -1527,7 +1534,11 @@ public final class DrawingMachine {
         }
 
         private static int channelBits(int mask) {
-            return (mask & 1) * 0xFF | (mask >> 1 & 1) * 0xFF00 | (mask >> 2 & 1) * 0xFF0000 | (mask >> 3 & 1) * 0xFF000000;
+            int bits = 0;
+            for (int channel = 0; channel < 4; channel++) {
+                bits |= (mask >> channel & 1) * 255 << 8 * channel;
+            }
+            return bits;
         }
 
         /** A test that is off holds. */
