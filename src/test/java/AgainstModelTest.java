@@ -11,7 +11,7 @@ final class AgainstModelTest {
 
     public static void main(String[] args) {
         long seed = args.length > 0 ? Long.parseLong(args[0]) : 1;
-        int scenes = args.length > 1 ? Integer.parseInt(args[1]) : 600;
+        int scenes = args.length > 1 ? Integer.parseInt(args[1]) : 1000;
         Checks checks = new Checks("AgainstModelTest");
         int[] all = new int[9];
         for (int i = 0; i < scenes && !checks.isWrong(); i++) {

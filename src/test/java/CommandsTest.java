@@ -129,6 +129,11 @@ final class CommandsTest {
         store[2] = 256;
         checks.due("STORE 256 with 256", rig.sayJust(store), 0);
         // The same in a list, up to memory's end.
+        for (int place = 4094; place < 4096; place++) {
+            rig.put(place, 21);
+            checks.due("STORE in a list at " + place, rig.say(23, place), 1);
+            checks.due("it stands there", rig.machine.about(2), place);
+        }
         rig.put(4093, 21, 0, 1);
         checks.due("STORE 1 in a list with none", rig.say(23, 4093), 1);
         checks.due("it stands there", rig.machine.about(2), 4093);
@@ -158,6 +163,8 @@ final class CommandsTest {
             boolean faulty = words[0] == 8;
             checks.due(java.util.Arrays.toString(words), rig.sayJust(words), faulty ? 4 : 0);
         }
+        checks.due("a program for corners from word 0 on", rig.sayJust(7, 0, 1), 0);
+        checks.due("a program for places from word 0 on", rig.sayJust(8, 0, 1), 0);
         rig.put(4095, 0);
         checks.due("CALL of memory's last word", rig.sayJust(23, 4095), 0);
     }
@@ -188,9 +195,7 @@ final class CommandsTest {
     }
 
     private static void uniforms(Checks checks) {
-        Rig rig = new Rig();
-        rig.coverAll(1, 1);
-        rig.tellShowing();
+        Rig rig = Rig.showing();
         rig.put(10, 111, 222, 333, 444, 555, 666, 777, 888);
         checks.due("UNIFORMS 3 and 4", rig.say(6, 3, 2, 10), 0);
         rig.put(10, 0, 0, 0, 0);
@@ -270,5 +275,35 @@ final class CommandsTest {
         rig.machine.frame(128, 128, 8);
         rig.machine.begin(false);
         checks.due("STATE goes before", rig.say(17, 1, 0, 4096), 6);
+        justAllWork(checks);
+    }
+
+    /** One place, 2 steps for each corner, 4090 for the place: 2048 triangles are 2^23, no more and no less. */
+    private static void justAllWork(Checks checks) {
+        Rig rig = new Rig();
+        rig.coverAll(1, 1);
+        int[][] program = new int[27][];
+        java.util.Arrays.fill(program, Rig.set(1, Rig.TO_TEMPORARY, 0, 1, Rig.source(Rig.UNIFORM, 0)));
+        program[0] = Rig.bare(34, 255);
+        program[16] = Rig.bare(35, 0);
+        program[25] = Rig.stop();
+        checks.due("the program", rig.placesProgram(Rig.join(java.util.Arrays.copyOf(program, 26))), 0);
+        rig.say(16, 3, 0);
+        checks.due("just 2^23", rig.say(17, 1, 0, 2050), 0);
+        checks.due("no more behind it", rig.sayJust(17, 1, 0, 2050, 17, 0, 0, 3), 8);
+        checks.due("one triangle more", rig.say(17, 1, 0, 2051), 8);
+        checks.due("none more", rig.say(17, 1, 0, 2050, 17, 0, 0, 2), 0);
+        // The same with 1365 steps for each corner, and one for the place.
+        int[][] corners = new int[21][];
+        java.util.Arrays.fill(corners, program[1]);
+        corners[0] = Rig.bare(34, 113);
+        corners[12] = Rig.bare(35, 0);
+        corners[20] = Rig.stop();
+        checks.due("the corners' program", rig.cornersProgram(Rig.join(corners)), 0);
+        checks.due("the places' program", rig.placesProgram(Rig.stop()), 0);
+        checks.due("just 2^23 by corners", rig.say(17, 1, 0, 2050), 0);
+        checks.due("one triangle more", rig.say(17, 1, 0, 2051), 8);
+        checks.due("an END alone is a program for corners, too", rig.cornersProgram(Rig.stop()), 0);
+        checks.due("and a draw can be done with it", rig.say(17, 1, 0, 2051), 0);
     }
 }

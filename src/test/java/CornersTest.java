@@ -17,9 +17,7 @@ final class CornersTest {
 
     /** The four parts of attribute 1, which is the same one for all vertices, of some words from 100 on. */
     private static void attribute(Checks checks, String what, int[] words, int from, int parts, int type, int... due) {
-        Rig rig = new Rig();
-        rig.coverAll(1, 1);
-        rig.tellShowing();
+        Rig rig = Rig.showing();
         rig.cornersProgram(Rig.handOn(2));
         rig.put(100, words);
         rig.say(4, 1, from, 0, parts, type);
@@ -49,24 +47,17 @@ final class CornersTest {
         attribute(checks, "far beyond memory", words, 1 << 20, 4, 1, 0, 0, 0, 0);
     }
 
-    /** A frame of one place for each of many vertices: three vertices of a draw are the same one. */
+    /** The number at the only place behind a draw, or what was there if it drew nothing. */
     private static int shownOf(Rig rig, int... command) {
         rig.say(1, 1, 0x1234567, 0, 0);
         int refused = rig.say(command);
         return refused == 0 ? rig.machine.at(0, 0, 0) : -refused;
     }
 
-    /** The corners' places come from uniforms by the vertex's attribute 2, attribute 1 is shown. */
+    /** Nine vertices whose triangles each cover the only place, and show attribute 1. */
     private static Rig byVertex() {
-        Rig rig = new Rig();
-        rig.coverAll(1, 1);
-        rig.tellShowing();
+        Rig rig = Rig.showing();
         rig.placesProgram(Rig.show(Rig.IN, 1, 0));
-        return rig;
-    }
-
-    private static void steps(Checks checks) {
-        Rig rig = byVertex();
         // Corners at words 200 + 8 i, and a number at 204 + 8 i; three in a row have one number.
         int[][] places = {{-ONE, -ONE}, {3 * ONE, -ONE}, {-ONE, 3 * ONE}};
         for (int i = 0; i < 9; i++) {
@@ -74,6 +65,11 @@ final class CornersTest {
         }
         rig.cornersProgram(Rig.handOn(2));
         rig.say(4, 0, 200, 8, 4, 0, 4, 1, 204, 8, 1, 0);
+        return rig;
+    }
+
+    private static void steps(Checks checks) {
+        Rig rig = byVertex();
         checks.due("first 0", shownOf(rig, 17, 0, 0, 3), 1000);
         checks.due("first 3", shownOf(rig, 17, 0, 3, 3), 1001);
         checks.due("first 6", shownOf(rig, 17, 0, 6, 3), 1002);
@@ -92,12 +88,6 @@ final class CornersTest {
 
     private static void indices(Checks checks) {
         Rig rig = byVertex();
-        int[][] places = {{-ONE, -ONE}, {3 * ONE, -ONE}, {-ONE, 3 * ONE}};
-        for (int i = 0; i < 9; i++) {
-            rig.put(200 + 8 * i, places[i % 3][0], places[i % 3][1], 0, ONE, 1000 + i / 3);
-        }
-        rig.cornersProgram(Rig.handOn(2));
-        rig.say(4, 0, 200, 8, 4, 0, 4, 1, 204, 8, 1, 0);
         rig.put(10, 3, 4, 5);
         checks.due("indices that are words", shownOf(rig, 18, 0, 10, 3, 0, 0), 1001);
         checks.due("with a base", shownOf(rig, 18, 0, 10, 3, 0, 3), 1002);
@@ -143,9 +133,7 @@ final class CornersTest {
     }
 
     private static void cutting(Checks checks) {
-        Rig rig = new Rig();
-        rig.coverAll(1, 1);
-        rig.tellShowing();
+        Rig rig = Rig.showing();
         rig.placesProgram(Rig.join(Rig.stop()));
         int[][] due = {
             // z of the three corners, their w, how many triangles are made
@@ -180,9 +168,7 @@ final class CornersTest {
      * new corners goes through the middle of the only place, where nothing of corner 0 is left.
      */
     private static void newCorner(Checks checks) {
-        Rig rig = new Rig();
-        rig.coverAll(1, 1);
-        rig.tellShowing();
+        Rig rig = Rig.showing();
         rig.cornersProgram(Rig.handOn(2));
         rig.put(0, 0, 3 * ONE, 0, ONE, 0, -9 * ONE, -6 * ONE, -3 * ONE, ONE, 900000, 9 * ONE, -6 * ONE, -3 * ONE, ONE, 900000);
         rig.say(4, 0, 0, 5, 4, 0, 4, 1, 4, 5, 1, 0);
@@ -268,9 +254,7 @@ final class CornersTest {
     }
 
     private static void sides(Checks checks) {
-        Rig rig = new Rig();
-        rig.coverAll(1, 1);
-        rig.tellShowing();
+        Rig rig = Rig.showing();
         int[] front = {-ONE, -ONE, 0, ONE, 3 * ONE, -ONE, 0, ONE, -ONE, 3 * ONE, 0, ONE};
         int[] back = {-ONE, -ONE, 0, ONE, -ONE, 3 * ONE, 0, ONE, 3 * ONE, -ONE, 0, ONE};
         rig.placesProgram(Rig.show(Rig.IN, 0, 3));

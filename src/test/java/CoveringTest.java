@@ -54,6 +54,12 @@ final class CoveringTest {
         covered(checks, "bottom and left", new int[] {8, 8, 40, 40, 8, 40}, 0, 1);
         covered(checks, "top and right", new int[] {8, 8, 40, 8, 40, 40}, 0, 0, 1, 0, 1, 1);
         covered(checks, "just a place", new int[] {8, 8, 9, 8, 8, 9}, 0, 0);
+        Rig least = rig(1);
+        least.say(16, 2, 0);
+        triangle(least, 8, 8, 9, 8, 8, 9);
+        checks.due("the least area shows its front", least.machine.count(2), 1);
+        triangle(least, 8, 8, 8, 9, 9, 8);
+        checks.due("and turned its back, which is left out", least.machine.count(2), 1);
         covered(checks, "just beside a place", new int[] {9, 8, 10, 8, 9, 9});
         covered(checks, "without area", new int[] {8, 8, 40, 8, 72, 8});
         covered(checks, "the frame's last place", new int[] {248, 248, 256, 248, 248, 256}, 15, 15);
@@ -116,6 +122,10 @@ final class CoveringTest {
         corner(rig, 1, 40, 8, 0, 3 * ONE, 300);
         // Q is 16384 and 5461: 300 * 5461 / 21845, down.
         checks.due("three times as far", shown(rig, 1, 0), 74);
+        // So far away that 2^30 divided by w is 0, Q is 1 all the same, beside 2.
+        corner(rig, 0, 8, 8, 0, 3 << 29, 0);
+        corner(rig, 1, 40, 8, 0, 1 << 29, 300);
+        checks.due("Q is at least 1", shown(rig, 1, 0), 200);
         corner(rig, 0, 8, 8, 0, ONE, Integer.MIN_VALUE);
         corner(rig, 1, 40, 8, 0, ONE, Integer.MAX_VALUE);
         checks.due("the ends of the range", shown(rig, 1, 0), -1);

@@ -19,13 +19,6 @@ final class ProgramsTest {
         checks.finish();
     }
 
-    private static Rig rig() {
-        Rig rig = new Rig();
-        rig.coverAll(1, 1);
-        rig.tellShowing();
-        return rig;
-    }
-
     /** The four parts that a kind makes of the uniforms 0, 1 and 2. */
     private static int[] made(Rig rig, int kind, int[] a, int[] b, int[] c) {
         rig.put(1, 101, 102, 103, 104);
@@ -42,7 +35,7 @@ final class ProgramsTest {
 
     /** Each on a machine of its own, which is good for 512 calls. */
     private static void due(Checks checks, int kind, int[] a, int[] b, int[] c, int... due) {
-        Rig rig = rig();
+        Rig rig = Rig.showing();
         String what = "kind " + kind + " of " + Arrays.toString(a) + Arrays.toString(b) + Arrays.toString(c);
         checks.due(what, Arrays.toString(made(rig, kind, a, b, c)), Arrays.toString(due));
     }
@@ -146,7 +139,7 @@ final class ProgramsTest {
     }
 
     private static void sourcesAndTargets(Checks checks) {
-        Rig rig = rig();
+        Rig rig = Rig.showing();
         rig.say(5, 0, 10, 20, 30, 40, 5, 1, -1, 2 * ONE, ONE, LEAST);
         // All sources are read before the target is set: a vector turned round into itself.
         int[] round = Rig.join(
@@ -184,7 +177,7 @@ final class ProgramsTest {
     }
 
     private static void loopsAndSkips(Checks checks) {
-        Rig rig = rig();
+        Rig rig = Rig.showing();
         rig.say(5, 0, 1, 1, 1, 1, 5, 1, 1000, 1000, 1000, 1000, 5, 2, 0, 1, 1, 1, 5, 3, -1, 1, 1, 1);
         checks.due("a loop", rig.shown(Rig.join(Rig.bare(34, 7), add(0), Rig.bare(35, 0), add(1)), Rig.TEMPORARY, 0, 0), 1007);
         checks.due("a loop done once", rig.shown(Rig.join(Rig.bare(34, 1), add(0), Rig.bare(35, 0)), Rig.TEMPORARY, 0, 0), 1);
@@ -209,7 +202,7 @@ final class ProgramsTest {
     }
 
     private static void kills(Checks checks) {
-        Rig rig = rig();
+        Rig rig = Rig.showing();
         int[][] rows = {{0, 0, 0, 0}, {-1, 0, 0, 0}, {5, LEAST, 5, 5}, {0, 0, -1, 0}, {MOST, MOST, MOST, -7}, {1, 2, 3, 4}};
         int killed = 0;
         for (int[] row : rows) {

@@ -146,6 +146,14 @@ final class Rig {
         say(2, 0, 0, wide, high, 0, (1 << 24) - 1, 4, 0, VERTICES_AT, 4, 4, 0);
     }
 
+    /** A frame of one place, ready to show numbers. */
+    static Rig showing() {
+        Rig rig = new Rig();
+        rig.coverAll(1, 1);
+        rig.tellShowing();
+        return rig;
+    }
+
     int draw() {
         return say(17, 0, 0, 3);
     }

@@ -183,15 +183,24 @@ final class Scenes {
     }
 
     List<Integer> placesProgram() {
-        int[][] last = {move(0, 15, anySource()), move(0, among(1, 15), anySource())};
-        return program(true, among(0, 10), oneIn(3) ? new int[0][] : last);
+        int[][] moves = {move(0, 15, anySource()), move(0, among(1, 15), anySource())};
+        int[][] none = new int[0][];
+        return program(true, among(0, 10), oneIn(3) ? textured() : oneIn(3) ? none : moves);
+    }
+
+    /** A texture laid over: a varying or the place's own middle, made smaller, says where. */
+    private int[][] textured() {
+        int[] where = {first(28, 0, 3, 15, false, 0), source(1, among(0, 3), STRAIGHT, oneIn(4)) | source(2, 6, STRAIGHT, false) << 16, 0};
+        int[] read = {first(pick(32, 33, 33), 1, 0, 15, false, among(0, 3)), source(0, 3, pick(STRAIGHT, among(0, 255)), false), 0};
+        return new int[][] {where, read};
     }
 
     // ---- vertices and pictures
 
     /** A corner's place, mostly such that something of its triangle can be seen. */
     void vertex(List<Integer> words) {
-        int w = pick(ONE, ONE, ONE, among(ONE / 4, 4 * ONE), among(ONE / 4, 4 * ONE), oneIn(3) ? among(-ONE, ONE) : ONE / 2, oneIn(3) ? among(0, 600) : 800);
+        int w = pick(ONE, ONE, ONE, among(ONE / 4, 4 * ONE), among(ONE / 4, 4 * ONE),
+            oneIn(3) ? among(-ONE, ONE) : ONE / 2, oneIn(3) ? among(0, 600) : 800);
         if (oneIn(30)) {
             w = anyWord();
         }
@@ -268,6 +277,11 @@ final class Scenes {
         for (int n = 0; n < 3; n++) {
             add(to, 5, n, anyWord(), anyWord(), anyWord(), anyWord());
         }
+        add(to, 5, 6, among(0, 5), among(0, 5), pick(0, 1, 2, 12), 0);
+        for (int unit = 0; unit < 4; unit++) {
+            add(to, 9, unit, PICTURES + among(0, 60), among(0, 4), among(0, 4), among(1, 6), among(0, 7));
+            add(to, 24, unit, among(0, 3), among(0, 3), among(0, 3));
+        }
     }
 
     int wide = 1;
@@ -275,11 +289,12 @@ final class Scenes {
     private int open = -1;
 
     /** Where so many words are, or, now and then, where some of them aren't. */
-    private int place(int many) {
+    private int place(int words) {
+        int many = Math.max(0, Math.min(words, 3000));
         if (oneIn(40)) {
             return pick(among(4096 - many, 4100), within(0, 1 << 20));
         }
-        return oneIn(4) ? among(0, BEHIND) : among(BEHIND, 4096 - Math.max(0, Math.min(many, 3000)));
+        return oneIn(4) ? among(0, BEHIND) : among(BEHIND, 4096 - many);
     }
 
     private int queryBegins(int n) {

@@ -17,13 +17,6 @@ final class TexturesTest {
         checks.finish();
     }
 
-    private static Rig rig() {
-        Rig rig = new Rig();
-        rig.coverAll(1, 1);
-        rig.tellShowing();
-        return rig;
-    }
-
     /** The part of what unit n reads at s, t and level l. */
     private static int read(Rig rig, int n, int part, int s, int t, int l) {
         rig.say(5, 0, s, t, l, 0);
@@ -68,13 +61,23 @@ final class TexturesTest {
             parts(ONE, ONE, ONE, 32897),
             parts(0, 0, 0, ONE)};
         for (int format = 0; format < 8; format++) {
-            Rig rig = rig();
+            Rig rig = Rig.showing();
             rig.put(100, word, 0);
             rig.say(9, 0, 100, 1, 0, 1, format);
             checks.due("format " + format + ", texel 0", readAll(rig, 0, 0, 0, 0), first[format]);
             checks.due("format " + format + ", texel 1", readAll(rig, 0, HALF, 0, 0), second[format]);
         }
-        Rig rig = rig();
+        // All channels of the formats with 16 bits, none of them 0.
+        String[] third = {
+            "", parts(fixed(0x1A, 5), fixed(0x2D, 6), fixed(0x0B, 5), ONE), parts(fixed(0xA, 4), fixed(0xB, 4), fixed(0xD, 4), fixed(0x5, 4)),
+            parts(fixed(0x1A, 5), fixed(0x0D, 5), fixed(0x17, 5), 0)};
+        for (int format = 1; format < 4; format++) {
+            Rig rig = Rig.showing();
+            rig.put(100, 0x5DBA);
+            rig.say(9, 0, 100, 0, 0, 1, format);
+            checks.due("format " + format + ", all channels", readAll(rig, 0, 0, 0, 0), third[format]);
+        }
+        Rig rig = Rig.showing();
         // Texels of 4 bits, one in each place of a word and of the next one.
         rig.put(100, 0x76543210, 0xFEDCBA98);
         rig.say(9, 0, 100, 2, 2, 1, 7);
@@ -84,7 +87,7 @@ final class TexturesTest {
     }
 
     private static void untold(Checks checks) {
-        Rig rig = rig();
+        Rig rig = Rig.showing();
         rig.put(0, 0x04030201);
         checks.due("a unit that was never told is one texel, word 0", readAll(rig, 2, 12345, -999, 7 * ONE),
             parts(fixed(1, 8), fixed(2, 8), fixed(3, 8), fixed(4, 8)));
@@ -98,7 +101,7 @@ final class TexturesTest {
 
     /** A picture 4 wide and 2 high of bytes 0x10 * row + column + 1. */
     private static Rig bytes() {
-        Rig rig = rig();
+        Rig rig = Rig.showing();
         rig.put(50, 0x04030201, 0x14131211);
         rig.say(9, 1, 50, 2, 1, 1, 4);
         return rig;
@@ -133,7 +136,7 @@ final class TexturesTest {
         for (int wrap = 0; wrap < 4; wrap++) {
             Rig across = bytes();
             across.say(24, 1, wrap, 0, 0, 25, 1, 5, -6, 7, -8);
-            Rig down = rig();
+            Rig down = Rig.showing();
             down.put(50, 0x04030201);
             down.say(9, 1, 50, 0, 2, 1, 4, 24, 1, 0, wrap, 0, 25, 1, 5, -6, 7, -8);
             for (int i = 0; i < places.length; i++) {
@@ -152,7 +155,7 @@ final class TexturesTest {
     }
 
     private static void ofFour(Checks checks) {
-        Rig rig = rig();
+        Rig rig = Rig.showing();
         // Two texels across and two down: 0 and 255, 51 and 102.
         rig.put(50, 0x6633FF00);
         rig.say(9, 0, 50, 1, 1, 1, 4, 24, 0, 1, 1, 1);
@@ -177,12 +180,12 @@ final class TexturesTest {
 
     private static void levels(Checks checks) {
         // 4 by 2, then 2 by 1, then 1 by 1, then 1 by 1 again: 8 + 2 + 1 + 1 bytes.
-        int[] bytes = {0x01010101, 0x01010101, 0x50332222, 0};
+        int[] bytes = {0x90909090, 0x90909090, 0x50332222, 0};
         for (int filter = 0; filter < 4; filter++) {
-            Rig rig = rig();
+            Rig rig = Rig.showing();
             rig.put(50, bytes);
             rig.say(9, 3, 50, 2, 1, 4, 4, 24, 3, 1, 1, filter);
-            int[] level = {fixed(1, 8), fixed(0x22, 8), fixed(0x33, 8), fixed(0x50, 8)};
+            int[] level = {fixed(0x90, 8), fixed(0x22, 8), fixed(0x33, 8), fixed(0x50, 8)};
             int[] lods = {0, -1, Integer.MIN_VALUE, HALF, ONE - 1, ONE, ONE + HALF, 2 * ONE, 3 * ONE - 1, 3 * ONE, 4 * ONE, Integer.MAX_VALUE};
             for (int lod : lods) {
                 int cut = Math.max(0, Math.min(3 * ONE, lod));
@@ -196,15 +199,35 @@ final class TexturesTest {
             rig.say(9, 3, 50, 2, 1, 2, 4);
             checks.due("filter " + filter + ", the last of two levels", read(rig, 3, 0, 0, 0, 3 * ONE), level[1]);
         }
-        Rig rig = rig();
+        Rig rig = Rig.showing();
         rig.put(50, bytes);
         rig.say(9, 3, 50, 2, 1, 4, 4, 5, 0, 0, 0, 2 * ONE, 0);
         int[] one = Rig.set(32, 3, false, Rig.target(Rig.TO_TEMPORARY, 0, Rig.ALL), Rig.source(Rig.UNIFORM, 0));
-        checks.due("kind 32 reads level 0", rig.shown(one, Rig.TEMPORARY, 0, 0), fixed(1, 8));
+        checks.due("kind 32 reads level 0", rig.shown(one, Rig.TEMPORARY, 0, 0), fixed(0x90, 8));
+        unlikeSides(checks);
+    }
+
+    /** 8 wide and 2 high, then 4 by 1, 2 by 1, 1 by 1: the levels begin at the bytes 0, 16, 20, 22. */
+    private static void unlikeSides(Checks checks) {
+        for (int unit = 0; unit < 4; unit++) {
+            Rig rig = Rig.showing();
+            for (int i = 0; i < 6; i++) {
+                rig.put(50 + i, 0x01010101 * (4 * i + 1) + 0x03020100);
+            }
+            rig.say(9, unit, 50, 3, 1, 4, 4, 24, unit, 1, 1, 0);
+            int[] begins = {0, 16, 20, 22};
+            for (int l = 0; l < 4; l++) {
+                int last = l == 0 ? 15 : begins[l] + (4 >> l - 1) - 1;
+                checks.due("unit " + unit + ", level " + l + " begins", read(rig, unit, 0, 0, 0, l * ONE), fixed(begins[l] + 1, 8));
+                checks.due("unit " + unit + ", level " + l + " ends", read(rig, unit, 0, ONE, ONE, l * ONE), fixed(last + 1, 8));
+            }
+            rig.say(24, unit, 1, 1, 1);
+            checks.due("unit " + unit + ", of four", read(rig, unit, 0, ONE / 8, ONE / 4, 0), (fixed(1, 8) + fixed(2, 8)) / 2);
+        }
     }
 
     private static void units(Checks checks) {
-        Rig rig = rig();
+        Rig rig = Rig.showing();
         rig.put(50, 0x01, 0x02, 0x03, 0x04);
         for (int unit = 0; unit < 4; unit++) {
             rig.say(9, unit, 50 + unit, 0, 0, 1, 4);
