@@ -3,9 +3,26 @@ final class Checks {
     private final String name;
     private int asked;
     private int wrong;
+    private int sentences;
+    private String sentence = "";
+    private int askedBefore;
 
     Checks(String name) {
         this.name = name;
+    }
+
+    /** What is asked from here on tests a sentence of the document; one that nothing is asked about is wrong. */
+    void sentence(String words) {
+        endSentence();
+        sentences++;
+        sentence = words;
+        askedBefore = asked;
+    }
+
+    private void endSentence() {
+        if (sentences > 0 && asked == askedBefore) {
+            tell("nothing was asked");
+        }
     }
 
     void due(String what, long got, long want) {
@@ -43,12 +60,14 @@ final class Checks {
     private void tell(String text) {
         wrong++;
         if (wrong <= 20) {
-            System.out.println(name + ": " + text);
+            System.out.println(name + ": " + text + (sentence.isEmpty() ? "" : " (\"" + sentence + "\")"));
         }
     }
 
     void finish() {
-        System.out.println(name + ": " + (asked - wrong) + " of " + asked + " answers are as due");
+        endSentence();
+        String about = sentences > 0 ? ", about " + sentences + " sentences" : "";
+        System.out.println(name + ": " + (asked - wrong) + " of " + asked + " answers are as due" + about);
         if (wrong != 0 || asked == 0) {
             System.exit(1);
         }
