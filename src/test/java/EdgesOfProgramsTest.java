@@ -1,5 +1,4 @@
 import java.math.BigInteger;
-import java.util.ArrayList;
 import java.util.Arrays;
 import java.util.List;
 
@@ -344,7 +343,7 @@ final class EdgesOfProgramsTest {
         Rig rig = new Rig();
         rig.coverAll(1, 1);
         rig.say(Kinds.UNIFORM, 0, ONE, 0, 0, 0);
-        int[][] program = padded(List.of(Rig.bare(34, 128), Rig.bare(34, 254), Instructions.FINE, Rig.bare(35, 0), Rig.bare(35, 0)), 65536);
+        int[][] program = Instructions.padded(List.of(Rig.bare(34, 128), Rig.bare(34, 254), Instructions.FINE, Rig.bare(35, 0), Rig.bare(35, 0)), 65536);
         program[program.length - 2] = Rig.set(1, Rig.TO_OUT, 0, Rig.ALL, Rig.source(Rig.UNIFORM, 0));
         checks.due("the program is read", rig.placesProgram(Rig.join(program)), 0);
         checks.due("the draw is done", rig.draw(), 0);
@@ -634,39 +633,6 @@ final class EdgesOfProgramsTest {
 
     // ---- steps
 
-    private static long stepsOf(List<int[]> program) {
-        long steps = 0;
-        List<Long> times = new ArrayList<>(List.of(1L));
-        for (int[] one : program) {
-            int kind = one[0] & 63;
-            steps += times.get(times.size() - 1);
-            if (kind == 34) {
-                times.add(times.get(times.size() - 1) * (one[0] >>> 17));
-            } else if (kind == 35) {
-                times.remove(times.size() - 1);
-            }
-        }
-        return steps;
-    }
-
-    /** The program with loops of nothing, instructions and an END behind it: so many steps in all. */
-    private static int[][] padded(List<int[]> program, int steps) {
-        List<int[]> all = new ArrayList<>(program);
-        long left = steps - stepsOf(all) - 2;
-        while (left > 100) {
-            int n = (int) Math.min(255, left - 2);
-            all.add(Rig.bare(34, n));
-            all.add(Rig.bare(35, 0));
-            left -= n + 1;
-        }
-        for (; left > 0; left--) {
-            all.add(Instructions.FINE);
-        }
-        all.add(Instructions.FINE);
-        all.add(Rig.stop());
-        return all.toArray(new int[0][]);
-    }
-
     private static void steps(Checks checks) {
         checks.sentence("STEPS: each instruction as often as the loops around it say together (a LOOP as what is around it).");
         int[] close = Rig.bare(35, 0);
@@ -678,8 +644,8 @@ final class EdgesOfProgramsTest {
             List.of(Rig.bare(34, 8), Rig.bare(34, 8), Rig.bare(34, 8), Rig.bare(34, 60), f, close, close, close, close),
             List.of(Rig.bare(34, 3), Rig.bare(34, 40), Rig.bare(34, 255), close, Rig.bare(34, 255), close, close, close));
         for (int i = 0; i < shapes.size(); i++) {
-            fault(checks, "shape " + i + " with 65536 steps", i % 2 == 0, 0, -1, padded(shapes.get(i), 65536));
-            fault(checks, "shape " + i + " with 65537 steps", i % 2 == 0, 8, -1, padded(shapes.get(i), 65537));
+            fault(checks, "shape " + i + " with 65536 steps", i % 2 == 0, 0, -1, Instructions.padded(shapes.get(i), 65536));
+            fault(checks, "shape " + i + " with 65537 steps", i % 2 == 0, 8, -1, Instructions.padded(shapes.get(i), 65537));
         }
         int[][] most = new int[256][];
         Arrays.fill(most, f);

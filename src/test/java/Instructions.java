@@ -1,4 +1,6 @@
+import java.util.ArrayList;
 import java.util.Arrays;
+import java.util.List;
 
 /** What one instruction makes, and what the check says about a program; both on a machine of their own. */
 final class Instructions {
@@ -42,5 +44,39 @@ final class Instructions {
     /** The same for one instruction, the second one of three. */
     static void alone(Checks checks, String what, int fault, int... one) {
         fault(checks, what, true, fault, 1, FINE, one, Rig.stop());
+    }
+
+    /** How many steps the document counts. */
+    static long stepsOf(List<int[]> program) {
+        long steps = 0;
+        List<Long> times = new ArrayList<>(List.of(1L));
+        for (int[] one : program) {
+            int kind = one[0] & 63;
+            steps += times.get(times.size() - 1);
+            if (kind == 34) {
+                times.add(times.get(times.size() - 1) * (one[0] >>> 17));
+            } else if (kind == 35) {
+                times.remove(times.size() - 1);
+            }
+        }
+        return steps;
+    }
+
+    /** The program with loops of nothing, instructions and an END behind it: so many steps in all. */
+    static int[][] padded(List<int[]> program, int steps) {
+        List<int[]> all = new ArrayList<>(program);
+        long left = steps - stepsOf(all) - 2;
+        while (left > 100) {
+            int n = (int) Math.min(255, left - 2);
+            all.add(Rig.bare(34, n));
+            all.add(Rig.bare(35, 0));
+            left -= n + 1;
+        }
+        for (; left > 0; left--) {
+            all.add(FINE);
+        }
+        all.add(FINE);
+        all.add(Rig.stop());
+        return all.toArray(new int[0][]);
     }
 }
