@@ -71,13 +71,15 @@ final class DrawingTest {
         int none = Rig.source(Rig.UNIFORM, 2);
         int below = Rig.source(Rig.UNIFORM, 3);
         rig.say(5, 1, ONE, 0, 0, 0, 5, 3, -1, 0, 0, 0, 4, 5, 100, 0, 1, 0);
-        rig.cornersProgram(Rig.handOn(6));
+        // The varying is the attribute less than 0, so that one can't be taken for the other.
+        rig.cornersProgram(Rig.join(Rig.set(1, Rig.TO_OUT, 0, Rig.ALL, Rig.source(Rig.IN, 0)), Rig.set(1, Rig.TO_OUT, 5, Rig.ALL, Rig.turned(in)),
+            Rig.stop()));
         int[][] rows = {
             Rig.set(1, 0, 0, 1, in), Rig.set(2, 0, 0, 1, none, in), Rig.set(5, 0, 0, 1, none, none, in),
             Rig.set(20, 0, 0, 1, one, in, in), Rig.set(20, 0, 0, 1, below, in, in), Rig.set(8, 0, 0, 1, in, in),
             Rig.set(20, 0, 0, 1, in, in, none), Rig.set(20, 0, 0, 1, in, in, in)};
         for (int i = 0; i < rows.length; i++) {
-            rig.put(100, (i + 1) * ONE);
+            rig.put(100, -(i + 1) * ONE);
             checks.due("varying 5 by instruction " + i, rig.shown(rows[i], Rig.TEMPORARY, 0, 0), (i + 1) * ONE);
         }
         Rig corners = Rig.showing();

@@ -8,6 +8,7 @@ final class EdgesOfCornersTest {
     private static final int ONE = Rig.ONE;
     private static final int LEAST = Integer.MIN_VALUE;
     private static final int MOST = Integer.MAX_VALUE;
+    private static final int DEEP = (1 << 24) - 1;
 
     public static void main(String[] args) {
         Checks checks = new Checks("EdgesOfCornersTest");
@@ -131,7 +132,7 @@ final class EdgesOfCornersTest {
         rig.put(2000, 0, 0, 0, 3 * ONE, 0, 0, 0, 3 * ONE, 0);
         rig.put(2500, 100, 101, 102);
         rig.say(Kinds.ATTRIBUTE, 0, 2000, 3, 3, 0, Kinds.ATTRIBUTE, 1, 2500, 1, 1, 0, Kinds.CLEAR, 1, -1, 0, 0,
-            Kinds.DRAW_BY_INDEX, 0, from, many, type, base);
+            Kinds.FACES, 2, 0, Kinds.DRAW_BY_INDEX, 0, from, many, type, base);
         return rig.machine.at(0, 0, 0);
     }
 
@@ -481,7 +482,7 @@ final class EdgesOfCornersTest {
 
     private static void depths(Checks checks) {
         checks.sentence("Its depth is near + ((z * 65536 / w + 65536) times (far - near), divided by 131072), cut likewise to 0 .. 2^24 - 1.");
-        int deep = (1 << 24) - 1;
+        int deep = DEEP;
         int[][] rows = {
             // z, w, near, far, due
             {-ONE, ONE, 0, deep, 0}, {ONE, ONE, 0, deep, deep}, {ONE + 1, ONE, 0, deep, deep}, {2 * ONE, ONE, 0, deep, deep}, {0, ONE, 0, deep, 8388607},
@@ -491,6 +492,30 @@ final class EdgesOfCornersTest {
             {0, ONE, 0, 1, 0}, {0, ONE, 1, 0, 0}, {0, ONE, 0, 3, 1}, {0, ONE, 3, 0, 1}};
         for (int[] row : rows) {
             checks.due("depth of " + Arrays.toString(row), depthOf(row[0], row[1], row[2], row[3]), row[4]);
+        }
+        beforeNear(checks);
+    }
+
+    /**
+     * Behind the cut by EYE, z + w of a new corner may be -1, since both are rounded down: its depth is before near,
+     * and still exact. Here z is -257 and w 256, and (z * 65536 / w + 65536) is -256.
+     */
+    private static void beforeNear(Checks checks) {
+        int wA = 327638;
+        int wB = -20250;
+        long f = 65536L * (wA - 256) / (wA - wB);
+        // Corner A is below the place's middle; the new corners are that middle, and to the right of it.
+        int yA = wA;
+        int yB = (int) (yA - 65536L * yA / f);
+        int[][] rows = {{100000, DEEP, 67427}, {0, DEEP, 0}, {DEEP, 0, DEEP}, {1000, 0, 1001}, {0, 1000, 0}};
+        for (int[] row : rows) {
+            Rig rig = new Rig();
+            rig.coverAll(1, 1);
+            rig.placesProgram(Rig.stop());
+            rig.put(0, 0, yA, 1 - wA, wA, 0, yB, -wB, wB, 5000, yB, -wB, wB);
+            rig.say(Kinds.ATTRIBUTE, 0, 0, 4, 4, 0, Kinds.VIEW, 0, 0, 1, 1, row[0], row[1], Kinds.CLEAR, 2, 0, 77, 0, Kinds.DEPTH, 7, 1);
+            rig.draw();
+            checks.due("before near, " + Arrays.toString(row), rig.machine.at(0, 0, 1), row[2]);
         }
     }
 

@@ -19,6 +19,7 @@ final class EdgesOfCoveringTest {
         depths(checks);
         shares(checks);
         values(checks);
+        remainders(checks);
         checks.finish();
     }
 
@@ -172,6 +173,41 @@ final class EdgesOfCoveringTest {
                 int first = ends == 0 ? n : 8 - n;
                 checks.due("depth " + n + " of 8", rig.machine.at(n, 0, 1), (int) (first * 16777215L / 8));
             }
+        }
+    }
+
+    /** The only place is a third of the way from corner 0 to corner 1, on a top edge: weights 2, 1 and 0 of 3. */
+    private static Rig third(int w, int number) {
+        Rig rig = Rig.showing();
+        rig.cornersProgram(Rig.handOn(2));
+        int eighth = w / 8;
+        rig.put(0, -eighth, 0, -w, w, 0, 2 * eighth, 0, w, w, number, -eighth, eighth, 0, w, 0);
+        rig.say(Kinds.ATTRIBUTE, 0, 0, 5, 4, 0, Kinds.ATTRIBUTE, 1, 4, 5, 1, 0, Kinds.DEPTH, 7, 1);
+        return rig;
+    }
+
+    private static void remainders(Checks checks) {
+        checks.sentence("divided by the area, down.");
+        for (int far : new int[] {1, 2, 3, 4, 5, 16777214, 16777215}) {
+            Rig rig = third(ONE, 0);
+            rig.say(Kinds.VIEW, 0, 0, 1, 1, 0, far);
+            rig.placesProgram(Rig.stop());
+            rig.draw();
+            checks.due("a third of depth " + far, rig.machine.at(0, 0, 1), far / 3);
+        }
+        checks.sentence("divided by the sum of the shares, down.");
+        for (int number : new int[] {-4, -3, -2, -1, 1, 2, 3, 4, MOST, LEAST}) {
+            // Q is 1 for each corner, so that the shares are the weights.
+            checks.due("a third of " + number, third(1 << 30, number).shown(new int[0], Rig.IN, 1, 0), Math.floorDiv(number, 3));
+        }
+        // The least triangle, of area 1: the place is in its corner 0.
+        for (int w : new int[] {ONE, 1 << 30}) {
+            Rig rig = Rig.showing();
+            rig.cornersProgram(Rig.handOn(2));
+            rig.put(0, 0, 0, w, w, 12345, w / 8, 0, 0, w, 0, 0, w / 8, 0, w, 0);
+            rig.say(Kinds.ATTRIBUTE, 0, 0, 5, 4, 0, Kinds.ATTRIBUTE, 1, 4, 5, 1, 0, Kinds.DEPTH, 7, 1, Kinds.VIEW, 0, 0, 1, 1, 0, 16777215);
+            checks.due("the number in the least triangle", rig.shown(new int[0], Rig.IN, 1, 0), 12345);
+            checks.due("the depth in the least triangle", rig.machine.at(0, 0, 1), 16777215);
         }
     }
 

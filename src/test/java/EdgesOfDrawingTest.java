@@ -24,6 +24,8 @@ final class EdgesOfDrawingTest {
         workAndOtherNumbers(checks);
         eachOnce(checks);
         insOfPlaces(checks);
+        insBesideVaryings(checks);
+        otherOuts(checks);
         killed(checks);
         queries(checks);
         copies(checks);
@@ -432,6 +434,55 @@ final class EdgesOfDrawingTest {
             rig.say(Kinds.FACES, 0, clock);
             checks.due("clock " + clock, at(rig, 3, 0, 64), clock == 0 ? ONE : 0);
         }
+    }
+
+    private static void insBesideVaryings(Checks checks) {
+        checks.sentence("ins 1 .. 7 the varyings there (the corners' X, Y, depths, Q, and the varyings' parts as values 0 .. 27).");
+        int w = 3 * ONE;
+        for (int clock = 0; clock < 2; clock++) {
+            Rig rig = Rig.showing();
+            rig.cornersProgram(Rig.handOn(8));
+            rig.put(0, -w, -w, 0, w, 3 * w, -w, 0, w, -w, 3 * w, 0, w);
+            rig.store(100, sevenVectors());
+            rig.say(Kinds.ATTRIBUTE, 0, 0, 4, 4, 0, Kinds.FACES, 0, clock);
+            for (int n = 1; n < 8; n++) {
+                rig.say(Kinds.ATTRIBUTE, n, 100 + 4 * (n - 1), 0, 4, 0);
+            }
+            // All ins are read by the program: each is what it would be alone.
+            int[][] all = new int[8][];
+            for (int n = 0; n < 8; n++) {
+                all[n] = Rig.set(1, Rig.TO_TEMPORARY, n, Rig.ALL, Rig.source(Rig.IN, n));
+            }
+            int[] middle = {ONE / 2, ONE / 2, DEPTH, clock == 0 ? ONE : 0};
+            for (int p = 0; p < 4; p++) {
+                checks.due("in 0, part " + p + ", clock " + clock, rig.shown(Rig.join(all), Rig.TEMPORARY, 0, p), middle[p]);
+                checks.due("in 1, part " + p, rig.shown(Rig.join(all), Rig.TEMPORARY, 1, p), 1000 + p);
+                checks.due("in 7, part " + p, rig.shown(Rig.join(all), Rig.TEMPORARY, 7, p), 7000 + p);
+            }
+        }
+    }
+
+    private static int[] sevenVectors() {
+        int[] words = new int[28];
+        for (int i = 0; i < 28; i++) {
+            words[i] = 1000 * (1 + i / 4) + i % 4;
+        }
+        return words;
+    }
+
+    private static void otherOuts(Checks checks) {
+        checks.sentence("Otherwise the place is drawn (section 6) with that depth and side, and its out 0 as colour.");
+        Rig rig = new Rig();
+        rig.coverAll(1, 1);
+        rig.say(Kinds.UNIFORM, 0, ONE, ONE, ONE, ONE, Kinds.UNIFORM, 1, 257, 514, 771, 1028);
+        int[][] all = new int[9][];
+        for (int n = 0; n < 8; n++) {
+            all[n] = Rig.set(1, Rig.TO_OUT, n, Rig.ALL, Rig.source(Rig.UNIFORM, n == 0 ? 1 : 0));
+        }
+        all[8] = Rig.stop();
+        rig.placesProgram(Rig.join(all));
+        rig.draw();
+        checks.due("the outs 1 .. 7 of places count for nothing", rig.machine.at(0, 0, 0), 0x04030201);
     }
 
     private static int at(Rig rig, int part, int x, int y) {

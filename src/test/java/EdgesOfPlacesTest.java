@@ -241,7 +241,7 @@ final class EdgesOfPlacesTest {
     private static void cutColours(Checks checks) {
         checks.sentence("each is cut to 0 .. 65536; its byte s is (255 times it + 32768) / 65536, rounded down.");
         int[][] rows = {
-            {LEAST, 0}, {-ONE, 0}, {-1, 0}, {0, 0}, {1, 0}, {128, 0}, {129, 1}, {385, 1}, {386, 2}, {ONE / 2 - 1, 127}, {ONE / 2, 128}, {ONE - 129, 254},
+            {LEAST, 0}, {-ONE, 0}, {-1, 0}, {0, 0}, {1, 0}, {128, 0}, {129, 1}, {385, 1}, {386, 2}, {ONE / 2 - 1, 127}, {ONE / 2, 128}, {33025, 128}, {33026, 129}, {ONE - 129, 254},
             {ONE - 128, 255}, {ONE - 1, 255}, {ONE, 255}, {ONE + 1, 255}, {2 * ONE, 255}, {MOST, 255}};
         for (int[] row : rows) {
             for (int k = 0; k < 4; k++) {
@@ -398,7 +398,7 @@ final class EdgesOfPlacesTest {
             }
             Rig rig = ready();
             tell(rig, s);
-            rig.say(Kinds.CLEAR, 1, d, 0, 0, Kinds.LOGIC, number, Kinds.BLEND, 0, 0, 0, 0, 0, 0, Kinds.DRAW, 0, 0, 3);
+            rig.say(Kinds.CLEAR, 1, d, 0, 0, Kinds.LOGIC, number, Kinds.BLEND, 1, 1, 1, 1, 1, 1, Kinds.DRAW, 0, 0, 3);
             checks.due("logic " + number, rig.machine.at(0, 0, 0), due);
         }
         checks.sentence("LOGIC, DEPTH, STENCIL: none with -1");

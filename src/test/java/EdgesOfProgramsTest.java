@@ -155,6 +155,29 @@ final class EdgesOfProgramsTest {
             }
         }
         readFirst(checks);
+        apart(checks);
+    }
+
+    /** What is set in one file, up to its last vector, is seen in no other one. */
+    private static void apart(Checks checks) {
+        checks.sentence("There are 16 TEMPORARIES, 8 INS, 8 OUTS, 32 UNIFORMS, all vectors.");
+        int[][] all = new int[24][];
+        for (int n = 0; n < 24; n++) {
+            all[n] = Rig.set(1, n < 16 ? Rig.TO_TEMPORARY : Rig.TO_OUT, n % 16, Rig.ALL, Rig.source(Rig.UNIFORM, 28));
+        }
+        int[] set = Rig.join(all);
+        for (int p = 0; p < 4; p++) {
+            Rig rig = vectors();
+            int[] middle = {ONE / 2, ONE / 2, 8388607, ONE};
+            checks.due("in 0, part " + p, rig.shown(set, Rig.IN, 0, p), middle[p]);
+            checks.due("in 7, part " + p, rig.shown(set, Rig.IN, 7, p), 0);
+            checks.due("nothing, part " + p, rig.shown(set, Rig.NOTHING, 0, p), 0);
+            checks.due("uniform 0, part " + p, rig.shown(set, Rig.UNIFORM, 0, p), new int[] {11, -22, LEAST, MOST}[p]);
+            checks.due("uniform 31, part " + p, rig.shown(set, Rig.UNIFORM, 31, p), 8 * p);
+            checks.due("temporary 15, never set, part " + p, rig.shown(new int[0], Rig.TEMPORARY, 15, p), 0);
+            checks.due("temporary 0, never set, part " + p, rig.shown(new int[0], Rig.TEMPORARY, 0, p), 0);
+            checks.due("temporary 15, part " + p, rig.shown(set, Rig.TEMPORARY, 15, p), p + 1);
+        }
     }
 
     private static Rig vectors() {
@@ -309,6 +332,13 @@ final class EdgesOfProgramsTest {
                 int due = Math.round(65536 * (kind == 32 ? p + 1 : 0x11 * (p + 1)) / 255f);
                 checks.due("kind " + kind + ", part " + p, rig.shown(one, Rig.TEMPORARY, 0, p), due);
             }
+        }
+        // Level 0 alone, though the filter would mix it with the next one, which is black.
+        rig.put(500, -1, 0);
+        int[] zero = Rig.set(32, 3, false, Rig.target(Rig.TO_TEMPORARY, 0, Rig.ALL), Rig.source(Rig.UNIFORM, 0));
+        for (int filter = 2; filter < 4; filter++) {
+            rig.say(Kinds.MANNER, 3, 0, 0, filter);
+            checks.due("kind 32, filter " + filter, rig.shown(zero, Rig.TEMPORARY, 0, 0), ONE);
         }
     }
 
@@ -623,12 +653,37 @@ final class EdgesOfProgramsTest {
         fault(checks, "from one loop to another as deep", true, 5, 1, loop, to4, close, loop, f, close, stop);
         fault(checks, "the first of two", true, 5, 2, f, loop, to4, close, Rig.bare(37, 6), loop, f, close, stop);
         fault(checks, "an open LOOP goes before", true, 5, 3, loop, Rig.bare(37, 3), close, loop, stop);
+        oneBehindTheOther(checks);
         checks.sentence("then fault 8, place -1, if it has more than 65,536 STEPS.");
         int[] most = Rig.bare(34, 255);
         fault(checks, "too many", true, 8, -1, most, most, f, close, close, stop);
         fault(checks, "a skip goes before", true, 5, 1, most, Rig.bare(37, 6), most, f, close, close, stop);
         fault(checks, "an open LOOP goes before", true, 5, 0, loop, most, most, f, close, close, stop);
         fault(checks, "an instruction goes before", true, 6, 5, most, most, f, close, close, f);
+    }
+
+    /** A check begins anew, whatever the program ahead of it left open. */
+    private static void oneBehindTheOther(Checks checks) {
+        checks.sentence("THE CHECK. A program has 1 .. 256 instructions, numbered from 0 on.");
+        int[] loop = Rig.bare(34, 255);
+        int[] close = Rig.bare(35, 0);
+        int[][] faulty = {
+            Rig.join(loop, loop, loop, loop, Rig.stop()), Rig.join(loop, loop, loop, loop, Rig.bare(63, 0), Rig.stop()), Rig.join(loop, Rig.stop(), close)};
+        int[] four = Rig.join(Rig.bare(34, 2), Rig.bare(34, 2), Rig.bare(34, 2), Rig.bare(34, 2), close, close, close, close, Rig.stop());
+        int[][] fine = {Rig.stop(), four, Rig.join(loop, Rig.bare(34, 254), close, close, Rig.stop())};
+        for (int[] first : faulty) {
+            for (int[] second : fine) {
+                Rig rig = new Rig();
+                rig.put(0, first);
+                rig.put(100, second);
+                checks.due("refused", rig.say(Kinds.PLACES_PROGRAM, 0, first.length / 3), Kinds.FAULT);
+                checks.due("not refused behind it", rig.say(Kinds.PLACES_PROGRAM, 100, second.length / 3), 0);
+                checks.due("no fault", rig.machine.about(7), 0);
+                rig.put(200, close);
+                checks.due("an ENDLOOP without a LOOP behind them", rig.say(Kinds.CORNERS_PROGRAM, 200, 1), Kinds.FAULT);
+                checks.due("its fault", rig.machine.about(7), 5);
+            }
+        }
     }
 
     // ---- steps

@@ -174,16 +174,20 @@ final class EdgesOfTexturesTest {
 
     private static void lastLevel(Checks checks) {
         checks.sentence("LEVELS: one texel of the level LOD / 65536, down, and of the next one (if there is one), mixed by what is left of LOD.");
-        int first = bright(0x10);
-        int second = bright(0xF0);
-        for (int filter = 0; filter < 4; filter++) {
-            Rig rig = picture(PICTURE, 0, 0, 2, 4, 0x0000F010);
-            rig.say(Kinds.MANNER, 0, 0, 0, filter);
-            for (int l : new int[] {0, 1, HALF, ONE - 1, ONE, ONE + 1}) {
-                int mixed = first + (int) ((long) (second - first) * Math.min(l, ONE) >> 16);
-                int due = filter >= 2 ? mixed : l < ONE ? first : second;
-                checks.due("filter " + filter + " at " + l, red(rig, 0, 0, l), due);
-            }
+        for (int filter = 0; filter < 8; filter++) {
+            lastOfTwo(checks, filter % 4, filter < 4 ? 0x10 : 0xF0);
+        }
+    }
+
+    private static void lastOfTwo(Checks checks, int filter, int ofFirst) {
+        int first = bright(ofFirst);
+        int second = bright(0x100 - ofFirst);
+        Rig rig = picture(PICTURE, 0, 0, 2, 4, 0x100 - ofFirst << 8 | ofFirst);
+        rig.say(Kinds.MANNER, 0, 0, 0, filter);
+        for (int l : new int[] {0, 1, HALF, ONE - 1, ONE, ONE + 1}) {
+            int mixed = first + (int) ((long) (second - first) * Math.min(l, ONE) >> 16);
+            int due = filter >= 2 ? mixed : l < ONE ? first : second;
+            checks.due("filter " + filter + " at " + l + " from " + first, red(rig, 0, 0, l), due);
         }
     }
 

@@ -231,7 +231,7 @@ final class PlacesTest {
             }
             Rig rig = rig();
             tellColour(rig, s);
-            rig.say(1, 1, d, 0, 0, 14, number, 12, 0, 0, 0, 0, 0, 0, 17, 0, 0, 3);
+            rig.say(1, 1, d, 0, 0, 14, number, 12, 1, 1, 1, 1, 0, 0, 17, 0, 0, 3);
             checks.due("logic " + number + ", ahead of blending", rig.machine.at(0, 0, 0), want);
         }
         Rig rig = rig();
