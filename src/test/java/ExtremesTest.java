@@ -211,6 +211,11 @@ final class ExtremesTest {
             all[k] = oneIn(8) ? word() : (int) Math.max(LEAST, Math.min(MOST, v));
         }
         all[3] = w;
+        if (oneIn(6)) {
+            // The nearest corner with the greatest depth: its product with far - near just passes 63 bits.
+            all[2] = MOST;
+            all[3] = 256;
+        }
         for (int k = 4; k < 8; k++) {
             all[k] = word();
         }
@@ -219,8 +224,10 @@ final class ExtremesTest {
 
     private int[] view(int wide, int high) {
         boolean plain = oneIn(2);
+        int near = pick(0, 0, DEEPEST, within(0, DEEPEST));
         return of(Kinds.VIEW, plain ? 0 : within(-1023, 1023), plain ? 0 : within(-1023, 1023),
-            plain ? wide : within(1, 1024), plain ? high : within(1, 1024), within(0, DEEPEST), within(0, DEEPEST));
+            plain ? wide : within(1, 1024), plain ? high : within(1, 1024),
+            near, oneIn(2) ? DEEPEST - near : within(0, DEEPEST));
     }
 
     private void corners() {
@@ -309,8 +316,8 @@ final class ExtremesTest {
             int[] read = Rig.set(pick(32, 33, 33), unit, oneIn(6), Rig.target(Rig.TO_TEMPORARY, 4, Rig.ALL),
                 Rig.source(Rig.TEMPORARY, 0, oneIn(2) ? Rig.STRAIGHT : among(0, 255)));
             say(of(Kinds.TEXTURE, unit, from, among(0, log), among(0, log), within(1, 11), among(0, 7)),
-                of(Kinds.MANNER, unit, among(0, 3), among(0, 3), among(0, 3)),
-                of(Kinds.BORDER, unit, word(), word(), word(), word()), uniformsOfPlace(),
+                of(Kinds.MANNER, unit, pick(0, 1, 2, 3, 3), pick(0, 1, 2, 3, 3), among(0, 3)),
+                of(Kinds.BORDER, unit, pick(LEAST, MOST), pick(LEAST, MOST), word(), word()), uniformsOfPlace(),
                 program(Kinds.PLACES_PROGRAM, PLACES_AT,
                     Rig.join(wordsOfPlace(1), read, Rig.show(Rig.TEMPORARY, 4, among(0, 3)))), draw());
             both.sum(0);
